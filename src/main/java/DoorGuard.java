@@ -299,11 +299,9 @@ public final class DoorGuard {
     // ---- Trials and the state.
 
     public int trial(int place, int sender, int way, int kind, int act) {
-        if (!isRule(place, sender, way, kind, act)) {
+        if (!setTrial(place, sender, way, kind, act)) {
             return NONE;
         }
-        sightAll();
-        trialRules.copyWith(rules, place, new Rule(sender, way, kind, act));
         int others = 0;
         for (int number = 0; number < letterCount; number++) {
             if (isOtherByTrial(number)) {
@@ -314,11 +312,9 @@ public final class DoorGuard {
     }
 
     public int tried(int place, int sender, int way, int kind, int act, int i) {
-        if (!isRule(place, sender, way, kind, act)) {
+        if (!setTrial(place, sender, way, kind, act)) {
             return NONE;
         }
-        sightAll();
-        trialRules.copyWith(rules, place, new Rule(sender, way, kind, act));
         int others = 0;
         for (int number = 0; number < letterCount; number++) {
             if (isOtherByTrial(number)) {
@@ -543,6 +539,15 @@ public final class DoorGuard {
         }
     }
 
+    private boolean setTrial(int place, int sender, int way, int kind, int act) {
+        if (!isRule(place, sender, way, kind, act)) {
+            return false;
+        }
+        sightAll();
+        trialRules.copyWith(rules, place, new Rule(sender, way, kind, act));
+        return true;
+    }
+
     private boolean isOtherByTrial(int number) {
         Rule rule = firstRule(trialRules, number);
         int act = rule == null ? ACT_LET : rule.act;
@@ -665,28 +670,27 @@ public final class DoorGuard {
 
         private void splitWords() {
             wordCount = 0;
-            int i = 0;
-            while (i < size) {
-                if (isOfWord(i) && wordCount < wordStarts.length) {
-                    i = addWord(i);
+            int start = 0;
+            for (int i = 0; i <= size; i++) {
+                if (i == size || !isOfWord(i)) {
+                    addWord(start, i - start);
+                    start = i + 1;
                 }
-                i++;
             }
         }
 
-        /** Adds the word that starts there; its last byte's index. */
-        private int addWord(int start) {
-            int end = start;
-            int hash = bytes[start];
-            while (end + 1 < size && isOfWord(end + 1)) {
-                end++;
-                hash = 31 * hash + bytes[end];
+        private void addWord(int start, int length) {
+            if (length < 1 || wordCount >= wordStarts.length) {
+                return;
+            }
+            int hash = 0;
+            for (int i = 0; i < length; i++) {
+                hash = 31 * hash + bytes[start + i];
             }
             wordStarts[wordCount] = start;
-            wordLengths[wordCount] = end - start + 1;
+            wordLengths[wordCount] = length;
             wordHashes[wordCount] = hash;
             wordCount++;
-            return end;
         }
 
         private int placeStart(int word) {
@@ -757,16 +761,14 @@ public final class DoorGuard {
         }
 
         void collectNumbers(Findings into) {
-            int i = 0;
-            while (i < size) {
-                if (isDigit(bytes[i])) {
-                    int end = endOfDigits(i);
+            int end = NONE;
+            for (int i = 0; i < size; i++) {
+                if (i > end && isDigit(bytes[i])) {
+                    end = endOfDigits(i);
                     if (isNumber(i, end)) {
                         into.put(firsts[i], lasts[end], NONE);
                     }
-                    i = end;
                 }
-                i++;
             }
         }
 
@@ -827,8 +829,12 @@ public final class DoorGuard {
             different.put(part);
         }
 
+        private int keptCount() {
+            return Math.min(count, firsts.length);
+        }
+
         private boolean isKept(int i) {
-            return within(i, 0, Math.min(count, firsts.length) - 1);
+            return within(i, 0, keptCount() - 1);
         }
 
         int firstOf(int i) {
@@ -845,7 +851,8 @@ public final class DoorGuard {
 
         int[] blackened(int[] came) {
             int[] leaving = came.clone();
-            for (int i = 0; isKept(i); i++) {
+            int some = keptCount();
+            for (int i = 0; i < some; i++) {
                 for (int j = firsts[i]; j <= lasts[i] && j < leaving.length; j++) {
                     leaving[j] = BLACK;
                 }

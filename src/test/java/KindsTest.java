@@ -6,6 +6,7 @@ public final class KindsTest {
     public static void main(String[] args) {
         keep();
         mark();
+        wordsOfOneHash();
         near();
         nearBounds();
         count();
@@ -52,6 +53,21 @@ public final class KindsTest {
         due.same("blackened", Due.letter(x, 0, true), "**** other key1x ******, key 1 xkey1");
         due.is("send", Due.send(x, 0, 0, 0, "key other"), 1);
         due.is("without the mark", x.told(1, 5), -1);
+    }
+
+    /** The program compares words by a hash first: these pairs have the same one. */
+    private static void wordsOfOneHash() {
+        DoorGuard x = new DoorGuard();
+        String[][] pairs = {{"an", "c0"}, {"izyoo4m", "uqgmazdj"}, {"fidps7a", "t5qm37h5"}};
+        for (String[] pair : pairs) {
+            Due.keep(x, 0, pair[0] + " word");
+            Due.feed(x, pair[1] + " word");
+            due.is("other words are not alike", x.parts(0, 2), 0);
+            x.end(0);
+            Due.feed(x, pair[0] + " word");
+            due.is("the same words are", x.parts(0, 2), 1);
+            x.end(0);
+        }
     }
 
     private static DoorGuard nearGuard(String text, int n, int act) {
@@ -241,6 +257,10 @@ public final class KindsTest {
         due.is("different parts", x.parts(1, 2), 4);
         due.is("three in a row", x.parts(1, 3), 2);
         due.is("four in a row", x.parts(1, 4), 0);
+        x.end(7);
+        due.is("of fewer words, different parts are fewer", x.parts(1, 2), 0);
+        Due.feed(x, "ee one");
+        due.is("different parts again", x.parts(1, 2), 4);
         due.is("another text", x.parts(0, 2), 0);
         due.is("the tape stays", x.state(3), 13);
         for (int far : FAR) {

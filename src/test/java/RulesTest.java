@@ -101,6 +101,7 @@ public final class RulesTest {
         due.is("state(2)", x.state(2), 2);
         due.is("the next took its place", x.quarrel(0, 1), 20);
         due.is("drop(1)", x.drop(1), true);
+        due.is("a rule that went does not quarrel", x.quarrel(0, 1), -1);
         due.is("drop(1) again", x.drop(1), false);
         due.is("drop(0)", x.drop(0), true);
         due.is("state(2)", x.state(2), 0);

@@ -113,9 +113,13 @@ public final class TapeTest {
         due.is("%2520 parts words", wordsOf("a%2520b"), 2);
         due.is("%252520 parts words", wordsOf("a%252520b"), 2);
         due.is("the fourth wrapping stays", wordsOf("a%25252520b"), 2);
-        due.is("the fourth wrapping leaves its digits", wordsOf("%25252541"), 1);
+        due.is("the third wrapping joins words", wordsOf("x%252541y"), 1);
+        due.is("the fourth wrapping does not", wordsOf("x%25252541y"), 2);
         due.is("%41 joins words", wordsOf("x%41y"), 1);
-        due.is("small hexadecimal digits", wordsOf("x%6ay%4Dz"), 1);
+        due.is("hexadecimal digits", wordsOf("x%6ay%4Dz"), 1);
+        due.is("the last ones, small and great", wordsOf("x%6fy%6Fz"), 1);
+        due.is("the first ones, small and great", wordsOf("x%4ay%4Az%30"), 1);
+        due.is("a sign between great and small ones", wordsOf("x%4`y"), 3);
         due.is("no hexadecimal digit", wordsOf("x%4gy"), 2);
         due.is("no hexadecimal digit first", wordsOf("x%g4y"), 2);
         due.is("one digit at the end", wordsOf("x%4"), 2);
@@ -131,6 +135,7 @@ public final class TapeTest {
         DoorGuard x = new DoorGuard();
         Due.feed(x, text);
         int numbers = x.numbers();
+        due.is("numbers() again", x.numbers(), numbers);
         due.is("numbers() leaves the tape", x.state(3), text.length());
         return numbers;
     }
@@ -160,6 +165,8 @@ public final class TapeTest {
         due.is("a blank does not part rows", numbersOf("00000000 000000000"), 0);
         due.is("sixteen with a blank", numbersOf("00000000 00000000"), 1);
         due.is("letters beside digits", numbersOf("x00000000y00000000"), 2);
+        due.is("a letter behind the first digit", numbersOf("0x0000000"), 0);
+        due.is("a letter ahead of the last digit", numbersOf("0000000x0"), 0);
         due.is("signs around", numbersOf("-00000000- "), 1);
         due.is("wrapped digits", numbersOf("0000%30000"), 1);
         due.is("wrapped blank", numbersOf("0000%200000"), 1);

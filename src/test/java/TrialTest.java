@@ -93,6 +93,8 @@ public final class TrialTest {
         due.same("a kept text as it is now", tried(x, 0, -1, -1, 2, 1), "0 2");
         x.count(2, 1);
         due.same("another sort", tried(x, 0, -1, -1, 2, 4), "0 2");
+        Due.mark(x, 2, "nothing");
+        due.is("tried by a kind as it is now", x.tried(0, -1, -1, 2, 4, 2), 3);
     }
 
     private static void piecesOnTheirDays() {
