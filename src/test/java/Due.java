@@ -27,7 +27,8 @@ final class Due {
     /** Feeds a text of characters 1 to 255; what the last feed answered. */
     static int feed(DoorGuard guard, String text) {
         byte[] bytes = text.getBytes(StandardCharsets.ISO_8859_1);
-        int answer = guard.state(3);
+        // A text that has bytes costs no call but its feeds: an object has 512 calls alone.
+        int answer = bytes.length == 0 ? guard.state(3) : DoorGuard.NONE;
         for (int at = 0; at < bytes.length; at += 20) {
             int[] five = new int[5];
             for (int i = 0; i < 20; i++) {

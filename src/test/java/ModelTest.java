@@ -1,10 +1,13 @@
 import java.nio.charset.StandardCharsets;
 import java.util.Random;
 
-/** Runs of 512 calls, the same ones each time, on a DoorGuard and on the Model: all answers are alike. */
+/**
+ * Runs of 512 calls, the same ones each time, on a DoorGuard and on the Model: all answers are alike.
+ * Some runs have short texts and many rules, so that letters and rules come up to their bounds and stay there.
+ */
 public final class ModelTest {
     private static final int RUNS = 300;
-    private static final int CALLS = 512;
+    private static final int CALLS = Script.MOST_CALLS;
     private static final String[] VOCABULARY = {"the", "secret", "plan", "of", "house", "aaaa", "b", "key", "42"};
     private static final String[] GAPS = {" ", " ", " ", ", ", "-", "%20", "%2520", "%252520", "%25252520", "\u00ff", "%"};
     private static final String[] NUMBERS = {"4111 1111-1111 1111", "00000000", "79927398713", "79927398710",
@@ -15,26 +18,36 @@ public final class ModelTest {
     private final int run;
     /** How often an argument is any int, and not one that is mostly within bounds. */
     private final int wildness;
+    /** Whether the run is one of short texts and many rules. */
+    private final boolean fills;
     private final DoorGuard guard = new DoorGuard();
     private final Model model = new Model();
     private byte[] waiting = {};
     private int fed = 0;
+    private int calls = 0;
+    private static int fullOfLetters = 0;
+    private static int fullOfRules = 0;
 
     private ModelTest(int run, Due due) {
         this.run = run;
         this.due = due;
         random = new Random(7000 + run);
         wildness = run % 5 == 0 ? 8 : 200;
+        fills = run % 3 == 0;
     }
 
     public static void main(String[] args) {
         Due due = new Due();
         for (int run = 0; run < RUNS; run++) {
             ModelTest test = new ModelTest(run, due);
-            for (int call = 0; call < CALLS; call++) {
+            while (test.calls < CALLS) {
                 test.step();
             }
+            fullOfLetters += test.model.state(1) == 60 ? 1 : 0;
+            fullOfRules += test.model.state(2) >= 19 ? 1 : 0;
         }
+        due.is("runs that were full of letters are many", fullOfLetters >= RUNS / 10, true);
+        due.is("runs that were full of rules are many", fullOfRules >= RUNS / 10, true);
         due.finish();
     }
 
@@ -47,17 +60,21 @@ public final class ModelTest {
         return least + random.nextInt(Math.max(1, most - least + 1));
     }
 
+    /** Each answer that is looked at is that of one call on the guard. */
     private void same(String call, int got, int want) {
+        calls++;
         due.is("run " + run + ": " + call, got, want);
     }
 
     private void same(String call, boolean got, boolean want) {
+        calls++;
         due.is("run " + run + ": " + call, got, want);
     }
 
     private String text() {
         StringBuilder all = new StringBuilder();
-        int words = 1 + random.nextInt(random.nextInt(6) == 0 ? 60 : 9);
+        int most = random.nextInt(6) == 0 ? 60 : 9;
+        int words = 1 + random.nextInt(fills ? 2 : most);
         for (int i = 0; i < words; i++) {
             all.append(random.nextInt(12) == 0 ? NUMBERS[random.nextInt(NUMBERS.length)] : word());
             all.append(GAPS[random.nextInt(GAPS.length)]);
@@ -95,6 +112,11 @@ public final class ModelTest {
     private void step() {
         if (fed < waiting.length) {
             feed();
+            return;
+        }
+        if (fills && random.nextInt(4) == 0) {
+            int[] r = rule();
+            same("rule", guard.rule(r[0], r[1], r[2], r[3], r[4]), model.rule(r[0], r[1], r[2], r[3], r[4]));
             return;
         }
         switch (random.nextInt(10)) {
@@ -148,7 +170,7 @@ public final class ModelTest {
                 same("keep", guard.keep(text), model.keep(text));
                 break;
             case 6:
-                int place = some(0, guard.state(2));
+                int place = some(0, model.state(2));
                 same("drop", guard.drop(place), model.drop(place));
                 break;
             case 7:
@@ -196,8 +218,11 @@ public final class ModelTest {
                 same("found", guard.found(letter, f, what % 3), model.found(letter, f, what % 3));
                 break;
             case 7:
-                same("words", guard.words(), model.words());
-                same("numbers", guard.numbers(), model.numbers());
+                if (random.nextBoolean()) {
+                    same("words", guard.words(), model.words());
+                } else {
+                    same("numbers", guard.numbers(), model.numbers());
+                }
                 break;
             case 8:
                 int text = some(0, 2);
