@@ -15,6 +15,7 @@ public final class KindBoundsTest {
         piecesOfALetter();
         piecesOfTwoLetters();
         daysOfPieces();
+        piecesOfEachRow();
         piecesFarBehindInAText();
         lettersThatPiecesCount();
         nothingFoundIsNoKind();
@@ -248,6 +249,20 @@ public final class KindBoundsTest {
         }
         Due.send(x, 0, 0, 0, words(0, 2));
         due.is("it is still 2", x.told(0, 4), 0);
+    }
+
+    private static void piecesOfEachRow() {
+        for (int n = 2; n <= 8; n++) {
+            DoorGuard x = new DoorGuard();
+            Due.keep(x, 7, words(0, n + 1));
+            due.is("pieces by " + n, x.pieces(7, 7, n, 2, 0), true);
+            x.rule(0, -1, -1, 7, 3);
+            Due.send(x, 0, 0, 0, words(0, n) + ", " + words(1, n - 1));
+            due.is("one part, and a row of one word less", x.told(0, 4), 0);
+            Due.send(x, 0, 0, 0, words(1, n));
+            due.is("the other part", x.told(1, 4), 3);
+            due.is("its number", x.found(1, 0, 2), 1);
+        }
     }
 
     private static void piecesFarBehindInAText() {
