@@ -1,5 +1,9 @@
+import java.lang.reflect.Field;
+import java.lang.reflect.Modifier;
 import java.nio.file.Files;
 import java.nio.file.Path;
+import java.util.ArrayList;
+import java.util.List;
 import java.util.regex.Matcher;
 import java.util.regex.Pattern;
 
@@ -14,6 +18,7 @@ public final class LanguageTest {
         library(code);
         staticFields(code);
         methods(code);
+        fields();
         due.finish();
     }
 
@@ -57,6 +62,21 @@ public final class LanguageTest {
         int fields = count(code, "\\bstatic [^(){};=]*=");
         due.is("static fields that are no constants", fields - count(code, "\\bstatic final (int|long|boolean|char) \\w+ ="), 0);
         due.is("static initialisers", count(code, "\\bstatic \\{"), 0);
+    }
+
+    /** Rules 3 and 11: few fields to a class, and arrays of one dimension. */
+    private static void fields() {
+        List<Class<?>> classes = new ArrayList<>(List.of(DoorGuard.class.getDeclaredClasses()));
+        classes.add(DoorGuard.class);
+        for (Class<?> one : classes) {
+            int some = 0;
+            for (Field field : one.getDeclaredFields()) {
+                some += Modifier.isStatic(field.getModifiers()) ? 0 : 1;
+                due.is(field + " has two dimensions", field.getType().getName().startsWith("[["), false);
+                due.is(field + " is private", Modifier.isPrivate(field.getModifiers()) || field.getName().equals("NONE"), true);
+            }
+            due.is(one + " has few fields", some <= 20, true);
+        }
     }
 
     /** Rules 9 and 11. */
